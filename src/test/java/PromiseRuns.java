@@ -180,10 +180,12 @@ public final class PromiseRuns {
 
         x.simple(1, 0, 9);
         due("the old model again", model(x, 0, ",bc"), OK);
-        due("attribute", x.attribute(0, 2, 2, 1), OK);
-        due("required is missing", x.status(0), ATTRIBUTE);
-        due("the same model once more", model(x, 0, ",bc"), OK);
-        due("all attributes are absent", x.status(0), OK);
+        for (int a = 0; a <= 3; a++) {
+            due("attribute", x.attribute(0, a, 2, 1), OK);
+            due("required is missing", x.status(0), ATTRIBUTE);
+            due("the same model once more", model(x, 0, ",bc"), OK);
+            due("attribute " + a + " is absent", x.status(0), OK);
+        }
         x.set(0, 2, true, 5);
         due("absent but there", x.status(0), ATTRIBUTE);
         x.set(0, 2, false, 5);
@@ -556,7 +558,9 @@ public final class PromiseRuns {
         SchemaEditor x = withRoot("*b", "b");
         x.element(1, 0);
         x.value(1, true, 5);
-        x.set(1, 2, true, 5);
+        for (int a = 0; a <= 3; a++) {
+            x.set(1, a, true, 5);
+        }
         x.insert(1, 0, 1);
         x.remove(1);
         due("the number again", x.insert(0, 0, 1), 1);
@@ -642,6 +646,17 @@ public final class PromiseRuns {
         due("and 5 no longer below 3", x.move(5, 3, 0), BAD);
         due("all are still there", x.check(2), 7);
         due("5 and all below it", x.remove(5), 4);
+
+        SchemaEditor deep = new SchemaEditor();
+        for (int e = 0; e < 24; e++) {
+            deep.insert(e - 1, 0, 0);
+        }
+        due("the root below the deepest", deep.move(0, 23, 0), BAD);
+        due("the next below the deepest", deep.move(1, 23, 0), BAD);
+        due("the deepest up to the root", deep.move(23, 0, 0), OK);
+        dueChildren(deep, 0, 23, 1);
+        due("now the next may go below it", deep.move(1, 23, 0), OK);
+        dueChildren(deep, 0, 23);
     }
 
     private static void rename(SchemaEditor x) {
