@@ -590,8 +590,13 @@ public final class OracleRuns {
                     askDocument();
                 }
             }
-            while (made < CALLS) {
+            // No single one of these makes more than four calls, and none may go beyond the last that is promised.
+            while (made < CALLS - 4) {
                 askDocument();
+            }
+            while (made < CALLS) {
+                int e = someElement();
+                due("status(" + e + ")", x.status(e), o.status(e));
             }
         }
 
