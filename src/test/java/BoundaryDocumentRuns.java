@@ -250,6 +250,7 @@ public final class BoundaryDocumentRuns extends Runs {
             due(BAD, x.remove(e));
         }
         due(2, x.check(2));
+        children(x, 0, 1);
         due(1, x.remove(1));
         due(BAD, x.remove(1));
         due(1, x.remove(0));

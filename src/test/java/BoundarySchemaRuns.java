@@ -208,6 +208,17 @@ public final class BoundarySchemaRuns extends Runs {
         due(1 << 3, x.may(0, 0));
         due(OK, x.element(0, 5));
         due(1 << 2, x.may(0, 0));
+        // Nothing of a longer model before, whether it was taken or not, comes back in a shorter one.
+        for (String before : new String[] {"*|a|b|cd", "+,b?b", "33 33 33 b", "&b&c*d"}) {
+            Editor y = rooted("c", "bb");
+            due(before.equals("+,b?b") ? AMBIGUOUS : OK, y.model(0, before));
+            due(OK, y.model(0, "b"));
+            due(1, y.fitting(0));
+            due(CONTENT, y.status(0));
+            due(1, y.remove(2));
+            due(OK, y.status(0));
+            due(0, y.may(0, 1));
+        }
     }
 
     private static void allAttributesAbsent() {
@@ -306,10 +317,14 @@ public final class BoundarySchemaRuns extends Runs {
         for (int i = 0; i < REFUSED.length; i++) {
             Editor x = rooted(",b?c", "b");
             due(OK, x.simple(1, 0, 9));
-            due(OK, x.attribute(0, 2, 2, 1));
+            for (int a = 0; a <= 3; a++) {
+                due(OK, x.attribute(0, a, 2, 1));
+            }
             due(ANSWERS[i], x.model(0, REFUSED[i]));
-            due(ATTRIBUTE, x.status(0));
-            due(OK, x.set(0, 2, true, 9));
+            for (int a = 0; a <= 3; a++) {
+                due(ATTRIBUTE, x.status(0));
+                due(OK, x.set(0, a, true, 9));
+            }
             due(OK, x.status(0));
             due(0, x.missing(0));
             due(1, x.fitting(0));
@@ -449,6 +464,19 @@ public final class BoundarySchemaRuns extends Runs {
             due(BAD, x.simple(t, 0, 9));
             for (int type = 0; type <= 5; type++) {
                 due(BAD, x.listed(type, 0));
+            }
+            // Nor does it touch a type that is there.
+            for (int type = 0; type <= 5; type++) {
+                due(OK, x.simple(type, 0, 9));
+                due(OK, x.listed(type, 5));
+            }
+            due(BAD, x.simple(t, 1, 4));
+            due(0, x.insert(0, 0, 0));
+            for (int type = 0; type <= 5; type++) {
+                due(BAD, x.listed(type, 5));
+                due(OK, x.element(0, type));
+                dueValue(x, 5, OK);
+                dueValue(x, 4, VALUE);
             }
         }
     }

@@ -664,6 +664,18 @@ public final class BoundaryTermsRuns extends Runs {
             due(ATTRIBUTE, y.status(0));
             due(OK, y.set(0, a, false, 5));
             due(OK, y.status(0));
+
+            // A SIMPLE type that allowed or required it while it was COMPLEX.
+            for (int use = 1; use <= 2; use++) {
+                due(OK, y.model(0, "*a"));
+                due(OK, y.simple(1, 0, 9));
+                due(OK, y.attribute(0, a, use, 1));
+                due(OK, y.simple(0, 0, 9));
+                due(OK, y.status(0));
+                due(OK, y.set(0, a, true, 5));
+                due(ATTRIBUTE, y.status(0));
+                due(OK, y.set(0, a, false, 5));
+            }
         }
     }
 

@@ -30,6 +30,7 @@ public final class RefusedRuns extends Runs {
         });
         STATES.put("a full document", RefusedRuns::fullDocument);
         PROBES.put("looking", RefusedRuns::look);
+        PROBES.put("the draft as it is", RefusedRuns::useDraft);
         PROBES.put("drafting on", RefusedRuns::draftOn);
         PROBES.put("room in the draft", RefusedRuns::roomInDraft);
         PROBES.put("listing", RefusedRuns::list);
@@ -169,6 +170,10 @@ public final class RefusedRuns extends Runs {
 
     private static void draftOn(Editor x) {
         x.token(0, 2);
+        useDraft(x);
+    }
+
+    private static void useDraft(Editor x) {
         x.model(0);
         x.place();
         x.insert(0, 0, 0);
